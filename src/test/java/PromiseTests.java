@@ -41,6 +41,8 @@ public final class PromiseTests {
         boots();
         month();
         tries();
+        neitherDrawn();
+        grownLater();
         judge();
         seen();
         image();
@@ -248,6 +250,8 @@ public final class PromiseTests {
         is("of(3, 0)", x.of(3, 0), 30);
         is("of(3, 1)", x.of(3, 1), 0);
         is("count(0)", x.count(0), 4);
+        is("of(2, 0)", x.of(2, 0), 20);
+        is("of(2, 1)", x.of(2, 1), 1);
         bytes(x, 0, 10, 0, 0, 1, 30, 0);
         is("people(0, 0, 3), one of size 0", x.people(0, 0, 3), 1);
         bytes(x, 0, 10, 2, 30, 0);
@@ -299,11 +303,14 @@ public final class PromiseTests {
         is("of(0, 2)", x.of(0, 2), 0);
         is("mend(0, 2, 2)", x.mend(0, 2, 2), 0);
         is("of(0, 11)", x.of(0, 11), 2);
+        is("mend(0, 2, 0)", x.mend(0, 2, 0), 2);
+        is("mend(0, 2, 1)", x.mend(0, 2, 1), 0);
+        is("of(0, 11)", x.of(0, 11), 1);
         is("mend(0, 3, 0)", x.mend(0, 3, 0), 5);
         is("mend(0, 3, 20)", x.mend(0, 3, 20), 0);
         is("of(0, 30)", x.of(0, 30), 20);
         is("mend(0, 0, 99), as it is", x.mend(0, 0, 99), 99);
-        is("count(4)", x.count(4), 9);
+        is("count(4)", x.count(4), 11);
     }
 
     private static void wear() {
@@ -401,6 +408,12 @@ public final class PromiseTests {
         is("law() of 120 bytes, ends too early", tell(x, full + "+"), -220);
         is("law() of 60 lines, ends too early", tell(x, "1;".repeat(60)), -220);
         is("law() of 60 lines", tell(x, "1;".repeat(59) + "1"), 1);
+        is("law() of 120 bytes, each a sign", tell(x, "!1" + "+0".repeat(58) + "+1"), 1);
+        is("may(0, 1), by its last byte", x.may(0, 1), 1);
+        is("law() of 120 bytes, each a sign", tell(x, "!1" + "+1".repeat(58) + "*0"), 1);
+        is("may(0, 1), by its last byte", x.may(0, 1), 1);
+        is("law() of 120 bytes, each a sign", tell(x, "!1" + "+0".repeat(58) + "+0"), 1);
+        is("may(0, 1), by its last byte", x.may(0, 1), 0);
     }
 
     /** By a mark of where the fault is: the byte behind ^; none: it ends too early. */
@@ -513,7 +526,8 @@ public final class PromiseTests {
         value(x, "-(8192*8192*32)<0", 1);
         int[] lines = {
             tellMay(x, "0?1"), 0, tellMay(x, "1?1"), 1, tellMay(x, "2?0;1"), 0, tellMay(x, "0?1;0"), 0, tellMay(x, "0?0;1"), 1,
-            tellMay(x, "0?1;0?1"), 0, tellMay(x, "0?0;1?5;0"), 1, tellMay(x, "0;1"), 0, tellMay(x, "1;0"), 1, tellMay(x, "-1"), 1,
+            tellMay(x, "0?1;0?1"), 0, tellMay(x, "0?0;1?5;0"), 1, tellMay(x, "0;1"), 0, tellMay(x, "1;0"), 1,
+            tellMay(x, "1|0?0|1"), 1, tellMay(x, "0|0?0|1"), 0, tellMay(x, "1?0&1"), 0, tellMay(x, "-1"), 1,
             tellMay(x, "a>b?0;1"), 0, tellMay(x, "a<b?0;1"), 1, tellMay(x, "0?1;0?1;0?1;d=1"), 1,
         };
         for (int i = 0; i < lines.length; i += 2) {
@@ -667,6 +681,12 @@ public final class PromiseTests {
         is("reach(0)", u.reach(0), 35);
         is("reach(1)", u.reach(1), 1);
         is("reach(2)", u.reach(2), 12);
+        // By this law only the tallest goes, once; nothing of the longer evening may be left.
+        tell(u, "a=9");
+        is("reach(0)", u.reach(0), 5);
+        is("reach(1)", u.reach(1), 4);
+        is("reach(2)", u.reach(2), 1);
+        is("reach(2), again", u.reach(2), 1);
     }
 
     private static void canBe() {
@@ -946,6 +966,72 @@ public final class PromiseTests {
         return -1;
     }
 
+    /** One room is empty: the door is drawn and nothing else, which the next draws tell. */
+    private static void neitherDrawn() {
+        promise = 22;
+        SmallerOut x = house(3, new int[] {1, 0, 10, 0, 2, 2, 20, 2}, new int[] {30, 0, 10, 0, 20, 2, 25, 2});
+        for (int seed = 1; seed <= 20; seed++) {
+            int[] size = {30, 10, 20, 25};
+            int[] room = {0, 0, 2, 2};
+            int changed = 0;
+            int z = seed;
+            for (int i = 0; i < 9; i++) {
+                z = z * 1103515245 + 12345;
+                int door = (z >>> 8) % 4;
+                if (door < 2) {
+                    continue;
+                }
+                int from = door == 2 ? 0 : 2;
+                z = z * 1103515245 + 12345;
+                int p = pick(room, from, (z >>> 8) % 2);
+                z = z * 1103515245 + 12345;
+                int q = pick(room, 2 - from, (z >>> 8) % 2);
+                if (size[p] >= size[q]) {
+                    room[p] = 2 - from;
+                    room[q] = from;
+                    changed++;
+                }
+            }
+            is("tries(" + seed + ", 9, -1, 0)", x.tries(seed, 9, -1, 0), changed);
+            is("tries(" + seed + ", 9, 0, 0)", x.tries(seed, 9, 0, 0), room[0]);
+            is("tries(" + seed + ", 9, 3, 0)", x.tries(seed, 9, 3, 0), room[3]);
+        }
+    }
+
+    /** In a month 1 would be above 0; what is asked of now must not see that. */
+    private static void grownLater() {
+        SmallerOut x = house(2, new int[] {1, 0}, new int[] {30, 0, 25, 1});
+        x.mend(1, 1, 9);
+        bytes(x, 0, 0, 0, 1);
+        bytes(x, 1, 1, 0);
+        promise = 8;
+        is("of(1, 3)", x.of(1, 3), 25);
+        promise = 11;
+        is("may(0, 1)", x.may(0, 1), 1);
+        promise = 12;
+        is("changes(-1)", x.changes(-1), 1);
+        promise = 15;
+        is("reach(0)", x.reach(0), 2);
+        promise = 16;
+        is("canBe(0)", x.canBe(0), 3);
+        promise = 17;
+        is("fewest(1, 1, -1)", x.fewest(1, 1, -1), 1);
+        promise = 18;
+        is("first(1, 1)", x.first(1, 1), 1);
+        promise = 19;
+        is("turn(1, 1)", x.turn(1, 1), 0);
+        promise = 20;
+        is("boots(1, 1, 0)", x.boots(1, 1, 0), -1);
+        promise = 22;
+        is("tries(1, 1, -1, 0)", x.tries(1, 1, -1, 0), 1);
+        promise = 23;
+        is("judge(0)", x.judge(0), NOT);
+        promise = 24;
+        is("seen(1)", x.seen(1), 1);
+        promise = 13;
+        is("change(0, 1)", x.change(0, 1), 1);
+    }
+
     private static void judge() {
         promise = 23;
         SmallerOut x = stairs();
@@ -985,9 +1071,17 @@ public final class PromiseTests {
         is("judge(0), one below 0", x.judge(0), 0);
         bytes(x, 0, 0, 0, 2);
         is("judge(0), not there", x.judge(0), 0);
+        bytes(x, 0, 0, 1, 5);
+        is("judge(0), nobody such", x.judge(0), 0);
         tell(x, "a<b");
         bytes(x, 0, 0, 0, 1);
         is("judge(0), by the law", x.judge(0), 0);
+        // What lacks is not a 0 that would do.
+        SmallerOut y = house(2, new int[] {1, 0}, new int[] {10, 1, 20, 0});
+        bytes(y, 0, 0, 1, 0);
+        is("judge(0)", y.judge(0), NOT);
+        bytes(y, 0, 0, 1);
+        is("judge(0), q lacks", y.judge(0), 0);
     }
 
     private static void seen() {
