@@ -93,8 +93,11 @@ public final class SmallerOut {
         if (was < 0 || !House.canBecome(what, v)) {
             return BAD;
         }
-        house.setNumber(number, what, v);
-        log.write(number, what, was, v);
+        // A number that stays what it was has not changed: there is nothing to undo, and no change came behind.
+        if (v != was) {
+            house.setNumber(number, what, v);
+            log.write(number, what, was, v);
+        }
         return was;
     }
 

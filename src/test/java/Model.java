@@ -125,6 +125,9 @@ final class Model {
         } else {
             return BAD;
         }
+        if (was == v) {
+            return was;
+        }
         lay(number, what, v);
         toUndo.addLast(new Mended(number, what, was, v));
         if (toUndo.size() == 41) {

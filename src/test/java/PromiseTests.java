@@ -309,8 +309,16 @@ public final class PromiseTests {
         is("mend(0, 3, 0)", x.mend(0, 3, 0), 5);
         is("mend(0, 3, 20)", x.mend(0, 3, 20), 0);
         is("of(0, 30)", x.of(0, 30), 20);
+        is("count(4)", x.count(4), 10);
         is("mend(0, 0, 99), as it is", x.mend(0, 0, 99), 99);
-        is("count(4)", x.count(4), 11);
+        is("mend(1, 1, 4), as it is", x.mend(1, 1, 4), 4);
+        is("mend(0, 2, 1), as it is", x.mend(0, 2, 1), 1);
+        is("mend(0, 3, 20), as it is", x.mend(0, 3, 20), 20);
+        is("of(0, 0)", x.of(0, 0), 99);
+        is("of(1, 2)", x.of(1, 2), 4);
+        is("of(0, 11)", x.of(0, 11), 1);
+        is("of(0, 30)", x.of(0, 30), 20);
+        is("count(4), no number has changed", x.count(4), 10);
     }
 
     private static void wear() {
@@ -1214,6 +1222,38 @@ public final class PromiseTests {
             is("redo()", y.redo(), i);
         }
         is("of(0, 0)", y.of(0, 0), 43);
+        undoOfWhatStayed();
+    }
+
+    /** A number that is mended to what it is has not changed: neither at first, nor between changes, nor behind forty. */
+    private static void undoOfWhatStayed() {
+        SmallerOut x = house(2, new int[] {1, 0}, new int[] {30, 0, 20, 1});
+        x.mend(0, 0, 30);
+        x.mend(0, 1, 0);
+        x.mend(0, 2, 0);
+        x.mend(0, 3, 5);
+        is("count(4)", x.count(4), 0);
+        is("undo(), no number has changed", x.undo(), STATE);
+        x.mend(0, 0, 31);
+        x.mend(0, 0, 31);
+        x.mend(1, 0, 20);
+        x.mend(1, 1, 3);
+        x.mend(1, 1, 3);
+        is("undo()", x.undo(), 1);
+        is("of(1, 2)", x.of(1, 2), 0);
+        is("of(0, 0)", x.of(0, 0), 31);
+        is("undo()", x.undo(), 0);
+        is("of(0, 0)", x.of(0, 0), 30);
+        is("undo()", x.undo(), STATE);
+        SmallerOut y = house(1, new int[0], new int[] {1, 0});
+        for (int i = 2; i <= 41; i++) {
+            y.mend(0, 0, i);
+        }
+        y.mend(0, 0, 41);
+        for (int i = 39; i >= 0; i--) {
+            is("undo()", y.undo(), i);
+        }
+        is("of(0, 0), none was forgotten for what stayed", y.of(0, 0), 1);
     }
 
     private static void redo() {
@@ -1251,6 +1291,20 @@ public final class PromiseTests {
         x.wear(1);
         is("redo(), no number came behind", x.redo(), 0);
         is("of(0, 0)", x.of(0, 0), 50);
+        x.undo();
+        x.undo();
+        is("mend(0, 0, 31), as it is", x.mend(0, 0, 31), 31);
+        is("mend(0, 2, 0), as it is", x.mend(0, 2, 0), 0);
+        is("redo(), no change came behind", x.redo(), 1);
+        is("of(0, 11)", x.of(0, 11), 2);
+        is("redo(), no change came behind", x.redo(), 0);
+        is("of(0, 0)", x.of(0, 0), 50);
+        // A change there and back again is two changes, though the number is what it was.
+        x.undo();
+        x.mend(0, 0, 60);
+        x.mend(0, 0, 31);
+        is("redo(), others came behind", x.redo(), STATE);
+        is("count(4)", x.count(4), 5);
     }
 
     // ---- acts, shelves
