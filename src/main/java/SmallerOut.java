@@ -691,7 +691,7 @@ public final class SmallerOut {
             fault = -1;
             drafted = 0;
             line();
-            while (next() == ';') {
+            for (int lines = 1; lines < MOST_BYTES && next() == ';'; lines++) {
                 at++;
                 line();
             }
@@ -718,7 +718,7 @@ public final class SmallerOut {
                 return;
             }
             level(level + 1, open);
-            while (isJoint(next(), level)) {
+            for (int joints = 0; joints < MOST_BYTES && isJoint(next(), level); joints++) {
                 int sign = next();
                 at++;
                 level(level + 1, open);
@@ -1049,7 +1049,7 @@ public final class SmallerOut {
             }
             for (int p = 0; p < passes.house.persons; p++) {
                 int able = (here >> p & 1) == 0 ? 0 : passes.partners[door * MOST_PEOPLE + p] & there;
-                for (int q = 0; able >> q != 0; q++) {
+                for (int q = 0; q < passes.house.persons; q++) {
                     if ((able >> q & 1) != 0 && count < MOST) {
                         move[count] = 100 * door + 10 * p + q;
                         next[count] = passes.changed(code, door, p, q);

@@ -125,6 +125,16 @@ final class TermSentences {
                 wear(1) = 0  of(0, 3) = 99  of(1, 3) = 21
                 mend(1, 0, 99) = 1  of(1, 3) = 119
                 of(2, 3) = BAD  of(-1, 3) = BAD
+                new                                            // in a MONTH 1 would be above 0; now nothing sees that
+                rooms 2
+                doors 1:0
+                people 30:0 25:1
+                mend(1, 1, 9) = 0  of(1, 3) = 25  may(0, 1) = 1  changes(-1) = 1  reach(0) = 2  reach(1) = 1  canBe(0) = 3
+                fewest(1, 1, -1) = 1  first(1, 1) = 1  turn(1, 1) = 0  boots(1, 1, 0) = -1  tries(1, 1, -1, 0) = 1
+                bytes 0 : 0 0 1
+                judge(0) = NOT
+                bytes 0 : 1 0
+                seen(0) = 1  change(0, 1) = 1
                 """);
         s.says("Terms 1", "A CHANGE at a DOOR: p, who is in the ROOM from which it goes, and q, who is in the other one,"
                 + " change places, if it MAY be.", """
@@ -139,6 +149,13 @@ final class TermSentences {
                 change(0, 1) = 1  of(0, 1) = 1  of(1, 1) = 0  of(2, 1) = 0  of(3, 1) = 2
                 of(0, 20) = 6  of(1, 20) = 1  of(2, 20) = 8
                 change(0, 1) = NOT
+                new                                            // the first and the last of PEOPLE, as p and as q
+                rooms 2
+                doors 1:2
+                people 9:1 9:1 9:1 9:1 9:0 9:0 9:0
+                change(0, 60) = 1  of(6, 1) = 1  of(0, 1) = 0  of(0, 20) = 49  of(1, 20) = 78
+                change(0, 6) = 2  change(0, 63) = 3  change(0, 36) = 4  change(0, 52) = 5  change(0, 45) = 6  led(1) = 45
+                of(0, 20) = 100  of(1, 20) = 27
                 """);
     }
 
@@ -163,8 +180,13 @@ final class TermSentences {
         x = s.script("");
         x.law("1;".repeat(60), -220);
         x.law("0" + full + "+", -219);
-        x = s.script("");
+        x = s.script("rooms 2\ndoors 1:0\npeople 30:0 20:1");
         x.law("00" + full + "+", -220);
+        // Each byte but for the 0 that is added stands for something to be worked out.
+        x.law("!1" + "+0".repeat(58) + "+1", 1);
+        x.is("may(0, 1)", 1);
+        x.law("!1" + "+0".repeat(58) + "+0", 1);
+        x.is("may(0, 1)", 0);
     }
 
     private void lines() {
@@ -182,6 +204,12 @@ final class TermSentences {
                 may(0, 1) = 1                                  // not 0: below it, too
                 law 9999?1 = 1
                 may(0, 1) = 1
+                law 0|1?0|1 = 1
+                may(0, 1) = 1
+                law 1&0|a>b?1&0|a=30 = 1
+                may(0, 1) = 1
+                law 0|0?1|1 = 1
+                may(0, 1) = 0
                 law ? = -100
                 law ?1 = -100
                 law 1? = -102
@@ -1108,6 +1136,27 @@ final class TermSentences {
             x.is("redo()", i);
         }
         x.play("redo() = STATE  of(0, 0) = 42  of(0, 30) = 6  count(4) = 40");
+        forgotten();
+    }
+
+    /** Of 47 changes of five numbers by turns 40 are kept: the first round and two of the second are not undone. */
+    private void forgotten() {
+        Player x = s.script("rooms 2\ndoors 1:0 10:0\npeople 10:0 20:1");
+        for (int round = 0; round < 9; round++) {
+            x.play("mend(0, 0, " + (11 + round) + ") = " + (10 + round) + "  mend(1, 0, " + (21 + round) + ") = " + (20 + round));
+            x.play("mend(1, 1, " + (1 + round) + ") = " + round);
+            x.play("mend(1, 2, " + (1 + round) % 3 + ") = " + round % 3);
+            x.play("mend(0, 3, " + (6 + round) + ") = " + (5 + round));
+        }
+        x.play("mend(0, 0, 20) = 19  mend(1, 0, 30) = 29  count(4) = 40");
+        for (int left = 39; left >= 0; left--) {
+            x.is("undo()", left);
+        }
+        x.play("undo() = STATE  of(0, 0) = 12  of(1, 0) = 22  of(1, 2) = 1  of(1, 11) = 1  of(0, 30) = 6  of(0, 2) = 0");
+        for (int left = 39; left >= 0; left--) {
+            x.is("redo()", left);
+        }
+        x.play("redo() = STATE  of(0, 0) = 20  of(1, 0) = 30  of(1, 2) = 9  of(1, 11) = 0  of(0, 30) = 14  of(0, 11) = 0");
     }
 
     private void image() {
