@@ -1064,7 +1064,10 @@ public final class SmallerOut {
     private static final class Search {
         // Seven people as 2, 2, 2 and 1 in four rooms: 7! / (2! 2! 2! 1!).
         static final int MOST = 630;
-        static final int CODES = 1 << 2 * MOST_PEOPLE;
+        // Three times as many and more, so that few arrangements want one and the same slot.
+        static final int SLOT_BITS = 11, SLOTS = 1 << SLOT_BITS;
+        // An odd number without a pattern, which strews like codes over all slots.
+        static final int STREW = 0x9E3779B1;
 
         final Steps steps = new Steps();
         final int[] codes = new int[MOST];
@@ -1073,8 +1076,8 @@ public final class SmallerOut {
         final int[] waits = new int[MOST];
         final int[] path = new int[MOST];
         final int[] order = new int[MOST];
-        // By arrangement: one more than its place among the codes; 0: it was not found.
-        final int[] placeOf = new int[CODES];
+        // One more than an arrangement's place among the codes; 0: the slot is free.
+        final int[] slots = new int[SLOTS];
         int found = 0;
 
         void spreadOut(Passes passes, int start) {
@@ -1094,12 +1097,13 @@ public final class SmallerOut {
             if ((start & mask) == bits) {
                 return 0;
             }
-            for (int at = 0; at < found; at++) {
+            // What is found lengthens the walk, to MOST at most.
+            for (int at = 0; at < found && at < MOST; at++) {
                 steps.list(passes, codes[at]);
                 for (int i = 0; i < steps.count; i++) {
                     int next = steps.next[i];
                     // Those nearest are walked by their first changes, so the first way found has the least one.
-                    if (placeOf[next] == 0 && note(next, distance[at] + 1, at == 0 ? steps.move[i] : lead[at])
+                    if (placeOf(next) < 0 && note(next, distance[at] + 1, at == 0 ? steps.move[i] : lead[at])
                             && (next & mask) == bits) {
                         return found - 1;
                     }
@@ -1109,8 +1113,8 @@ public final class SmallerOut {
         }
 
         private void forget() {
-            for (int i = 0; i < found; i++) {
-                placeOf[codes[i]] = 0;
+            for (int i = 0; i < SLOTS; i++) {
+                slots[i] = 0;
             }
             found = 0;
         }
@@ -1123,8 +1127,22 @@ public final class SmallerOut {
             distance[found] = far;
             lead[found] = firstMove;
             found++;
-            placeOf[code] = found;
+            slots[slotOf(code)] = found;
             return true;
+        }
+
+        /** Its place among the codes; -1: it was not found. */
+        private int placeOf(int code) {
+            return slots[slotOf(code)] - 1;
+        }
+
+        /** The slot in which an arrangement is, or the free one in which it would be; some are free always. */
+        private int slotOf(int code) {
+            int slot = code * STREW >>> 32 - SLOT_BITS;
+            for (int tried = 1; tried < SLOTS && slots[slot] != 0 && codes[slots[slot] - 1] != code; tried++) {
+                slot = slot + 1 & SLOTS - 1;
+            }
+            return slot;
         }
 
         /** Of all found: those in which no change may be. */
@@ -1148,12 +1166,12 @@ public final class SmallerOut {
                 ready = 1;
             }
             int most = 0;
-            for (int at = 0; at < ready; at++) {
+            for (int at = 0; at < ready && at < MOST; at++) {
                 int here = order[at];
                 most = Math.max(most, path[here]);
                 steps.list(passes, codes[here]);
                 for (int i = 0; i < steps.count; i++) {
-                    int next = placeOf[steps.next[i]] - 1;
+                    int next = placeOf(steps.next[i]);
                     if (next < 0) {
                         continue;
                     }
@@ -1176,7 +1194,7 @@ public final class SmallerOut {
             for (int at = 0; at < found; at++) {
                 steps.list(passes, codes[at]);
                 for (int i = 0; i < steps.count; i++) {
-                    int next = placeOf[steps.next[i]] - 1;
+                    int next = placeOf(steps.next[i]);
                     if (next >= 0) {
                         waits[next]++;
                     }

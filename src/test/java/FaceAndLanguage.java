@@ -1,3 +1,4 @@
+import java.lang.reflect.Array;
 import java.lang.reflect.Constructor;
 import java.lang.reflect.Field;
 import java.lang.reflect.Method;
@@ -7,6 +8,8 @@ import java.nio.file.Files;
 import java.nio.file.Path;
 import java.util.ArrayList;
 import java.util.Arrays;
+import java.util.Collections;
+import java.util.IdentityHashMap;
 import java.util.List;
 import java.util.Set;
 import java.util.TreeSet;
@@ -36,6 +39,7 @@ public final class FaceAndLanguage {
         }
         words(source);
         lengths(source);
+        made(source);
         System.out.println("FaceAndLanguage: " + wrong + " faults");
         if (wrong != 0) {
             System.exit(1);
@@ -124,6 +128,43 @@ public final class FaceAndLanguage {
             due(library.contains(call.group()), "the library's " + call.group());
         }
         due(!Pattern.compile("\\bstatic\\s*\\{").matcher(bare).find(), "a static initialiser");
+    }
+
+    /**
+     * Rule 12, what a run makes: an object makes all it needs when it is made, no call makes more, and even a run that
+     * makes an object at each of 512 calls stays below 600,000 objects and 7.3 million fields and elements.
+     */
+    private static void made(String source) throws Exception {
+        for (String line : bare(source).split("\n")) {
+            due(!line.contains("new ") || line.matches("\\s*(private )?final .* = new .*")
+                    || line.trim().equals("shelves[i] = new Shelf();"), "made in a call: " + line.trim());
+        }
+        Set<Object> seen = Collections.newSetFromMap(new IdentityHashMap<>());
+        long parts = parts(new SmallerOut(), seen);
+        due(seen.size() * 512L < 600_000, "objects: " + seen.size());
+        due(parts > 1000 && parts * 512 < 7_300_000, "fields and elements: " + parts);
+    }
+
+    /** Fields and elements of an object and of all that it holds. */
+    private static long parts(Object one, Set<Object> seen) throws Exception {
+        if (one == null || !seen.add(one)) {
+            return 0;
+        }
+        long parts = 0;
+        if (one.getClass().isArray()) {
+            int length = Array.getLength(one);
+            for (int i = 0; one instanceof Object[] && i < length; i++) {
+                parts += parts(Array.get(one, i), seen);
+            }
+            return parts + length;
+        }
+        for (Field field : one.getClass().getDeclaredFields()) {
+            if (!Modifier.isStatic(field.getModifiers())) {
+                field.setAccessible(true);
+                parts += 1 + (field.getType().isPrimitive() ? 0 : parts(field.get(one), seen));
+            }
+        }
+        return parts;
     }
 
     /** A method at most sixty lines, by the indents that the file keeps. */

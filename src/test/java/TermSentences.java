@@ -531,6 +531,21 @@ final class TermSentences {
                 doors 1:2 12:2 23:2 30:2
                 people 5:0 5:0 5:1 5:1 5:2 5:2 5:3
                 reach(0) = 630                                 // 7! / (2! 2! 2!)
+                new                                            // likewise, with any of the ROOMS for the one alone
+                rooms 4
+                doors 1:2 12:2 23:2 30:2
+                people 5:0 5:1 5:1 5:2 5:2 5:3 5:3
+                reach(0) = 630
+                new
+                rooms 4
+                doors 1:2 12:2 23:2 30:2
+                people 5:0 5:0 5:1 5:2 5:2 5:3 5:3
+                reach(0) = 630
+                new
+                rooms 4
+                doors 1:2 12:2 23:2 30:2
+                people 5:0 5:0 5:1 5:1 5:2 5:3 5:3
+                reach(0) = 630
                 """);
         s.says("Terms 2", "RESTS: those of them in which no CHANGE MAY be.", """
                 reach(1) = 1                                   // the one there is
@@ -558,6 +573,11 @@ final class TermSentences {
                 people 40:0 30:1 20:2 10:3
                 reach(2) = 6  reach(0) = 24  reach(1) = 1
                 change(1, 12) = 1  reach(2) = 5
+                new                                            // each pair in unlike ROOMS once: 7 * 6 / 2 - 3
+                rooms 4
+                doors 1:0 12:0 23:0
+                people 7:0 6:0 5:1 4:1 3:2 2:2 1:3
+                reach(2) = 18  reach(0) = 630  reach(1) = 1  fewest(64, 0, -1) = 3
                 new                                            // the longest one, not the first one that rests
                 rooms 3
                 doors 2:0 1:0 12:0
